@@ -96,6 +96,12 @@ public final class PromiseTest {
         due("2 none at 240", x.feed(0, 0, 0, 0, 0), 240);
         due("2 one at 240", x.feed(0, 0, 0, 0, 1), NONE);
         due("2 still 240", x.count(4), 240);
+        x.end(239);
+        due("2 each number counts: b", x.feed(0, 1, 0, 0, 1), NONE);
+        due("2 each number counts: c", x.feed(0, 0, 1, 0, 1), NONE);
+        due("2 each number counts: d", x.feed(0, 0, 0, 1, 1), NONE);
+        due("2 each number counts: a", x.feed(1, 0, 0, 0, 1), NONE);
+        due("2 one more", x.feed(0, 0, 0, 1 << 24, 0), 240);
     }
 
     private static void p03End() {
@@ -136,6 +142,16 @@ public final class PromiseTest {
         Kit.fault(0, "s;k;k;k;k;k;k;k;k;k", 18);
         Kit.fault(0, "k;k;k;k;k;k;k;k;s", NONE);
         Kit.fault(0, "k;k;k;k;k;k;k;k;s;s", 18);
+        Kit.fault(0, "sl0w0c0a0;kv0o0;k;k", NONE);
+        Kit.fault(0, "sl99w9c99a1;ks99v9o9;k;k", NONE);
+        Kit.fault(0, "sl1w1c1l1", 7);
+        Kit.fault(0, "sw1w1", 3);
+        Kit.fault(0, "sc1c1", 3);
+        Kit.fault(0, "sa1a1", 3);
+        Kit.fault(0, "kv1v1", 3);
+        Kit.fault(0, "ko1o1", 3);
+        Kit.fault(0, "k;k;kv", 6);
+        Kit.fault(0, "k;k;kv1s", 8);
         Kit.fault(0, "sl", 2);
         Kit.fault(0, "slw", 2);
         Kit.fault(0, "sl99l", 4);
@@ -172,6 +188,9 @@ public final class PromiseTest {
         Kit.fault(1, "y:-1", 2);
         Kit.fault(1, "y:v+", 4);
         Kit.fault(1, "y:v++", 4);
+        Kit.fault(1, "y:v*", 4);
+        Kit.fault(1, "y:v/+", 4);
+        Kit.fault(1, "y:v-[", 5);
         Kit.fault(1, "y:[v", 4);
         Kit.fault(1, "y:[v)", 4);
         Kit.fault(1, "y:[v]", NONE);
@@ -227,6 +246,7 @@ public final class PromiseTest {
         Kit.fault(2, "m ", 2);
         Kit.fault(2, "g12", 2);
         Kit.fault(2, "g1 2", 3);
+        Kit.fault(2, "g01", 2);
         Kit.fault(2, "gt", 1);
         Kit.fault(2, "h;x", 2);
         Kit.fault(2, "t;t;t;t;t;t;t;t;t;t;t;t;t;t;t;t", NONE);
@@ -272,6 +292,11 @@ public final class PromiseTest {
         due("5 a fifth law", Kit.tell(x, 1, "y:4"), NONE);
         due("5 a fifth journey", Kit.tell(x, 2, "t"), NONE);
         due("5 its tape stays", x.count(4), 1);
+        SpokeRing other = new SpokeRing();
+        Kit.type(other, "t");
+        due("5 a journey's tape, no such sort", other.text(3), NONE);
+        due("5 a journey's tape, no such sort below", other.text(-1), NONE);
+        due("5 no journey by these", other.count(3), 0);
         SpokeRing all = Kit.ring("k;k;k;k;k;k;k;k;sa1");
         due("5 eight spokes", all.count(0), 8);
         due("5 all vote", all.count(9), 1);
@@ -362,6 +387,10 @@ public final class PromiseTest {
         worth("y:!v=4?8;y:2", 2);
         worth("y:!!v=4?8;y:2", 8);
         worth("y:!v=4|v=4?8;y:2", 8);
+        worth("y:w=6&!v=3?8;y:2", 8);
+        worth("y:w=6&!v=4?8;y:2", 2);
+        worth("y:w=5|!!v=4?8;y:2", 8);
+        worth("y:1=2?[[[[[[8]]]]]];y:1+[1+[1+[1+[1+[1+[1]]]]]]", 7);
         worth("y:!(v=4|v=4)?8;y:2", 2);
         worth("y:1=1|1=1&1=2?8;y:2", 8);
         worth("y:(1=1|1=1)&1=2?8;y:2", 2);
@@ -572,6 +601,8 @@ public final class PromiseTest {
         due("14 above", x.wet(10), NONE);
         due("14 below", x.wet(-1), NONE);
         due("14 was", x.wet(0), 9);
+        due("14 up to 9", x.wet(9), 0);
+        due("14 one undone", x.undo(), 1);
         due("14 was 0", x.wet(7), 0);
         due("14 acts", x.count(14), 2);
         x.turn();
@@ -644,6 +675,7 @@ public final class PromiseTest {
         due("16 990 still", far.count(6), 990);
         due("16 999", far.years(9, 1), 999);
         due("16 none at 999", far.years(1, 1), NONE);
+        due("16 one year", Kit.ring("k;k;k").years(1, 9), 1);
         due("16 no wheel", new SpokeRing().years(1, 1), NONE);
     }
 
@@ -839,6 +871,8 @@ public final class PromiseTest {
         due("23 none may", Kit.ring("sl24;ks12;ks12;ks12").spare(), 0);
         // the weak one must be off, then two bear 18 at most
         due("23 the weak one", Kit.ring("sl24;ks20;ks3;ks20").spare(), 2);
+        due("23 the bottom at 0, too", Kit.ring("sl20;ks9;ks10;ks10;ks10").spare(), NONE);
+        due("23 the bottom at the last, too", Kit.ring("sl20;ks10;ks10;ks10;ks9").spare(), NONE);
         SpokeRing x = Kit.ring("sl0;k;k;k");
         x.away(2);
         due("23 those that are on", x.spare(), 1);
@@ -893,6 +927,13 @@ public final class PromiseTest {
         due("25 so at once", Kit.ring("sl0;kv1;kv2;kv3").settled(0), 0);
         due("25 of several the least", Kit.ring("sl0;kv3;kv2;kv4").settled(1), 2);
         due("25 the most", Kit.ring("sl0;kv3;kv2;kv3").settled(1), 3);
+        // two turns of three change nothing: only when 2 is down the others come nearer to 9
+        SpokeRing seldom = Kit.ring("sl0;kv5o0;kv5o0;kv9o9");
+        due("25 seldom", seldom.settled(0), 11);
+        due("25 seldom, the view", seldom.settled(1), 9);
+        seldom.turn();
+        seldom.turn();
+        due("25 seldom, from 6", seldom.settled(0), 9);
         due("25 never", Kit.ring("sl0;k;k;k", "y:t-t/2*2").settled(0), NONE);
         due("25 never, the view", Kit.ring("sl0;k;k;k", "y:t-t/2*2").settled(1), NONE);
         due("25 late", Kit.ring("sl0;k;k;k", "y:t<60?t-t/2*2;y:1").settled(0), 61);
@@ -971,6 +1012,16 @@ public final class PromiseTest {
         due("27 by the law that holds", law.views(1, NONE), 5);
         law.law(NONE);
         due("27 not by another", law.views(1, NONE), 0);
+        SpokeRing not = Kit.ring("sl0;kv9o9;kv0o9;kv9o9");
+        not.seen(3, false);
+        due("27 not done behind three", not.views(0, NONE), 5);
+        due("27 not done behind three: the last", not.views(0, 4), 4);
+        not.seen(6, false);
+        due("27 six, too", not.views(0, NONE), 5);
+        not.seen(2, true);
+        due("27 another's", not.views(0, NONE), 5);
+        not.seen(20, false);
+        due("27 another's, not so", not.views(0, NONE), 0);
     }
 
     private static void p28Ask() {
@@ -1014,6 +1065,8 @@ public final class PromiseTest {
         due("30 no such", x.often(4, 1), NONE);
         due("30 below", x.often(-1, 1), NONE);
         due("30 broken as it is down", x.often(1, 99), 0);
+        due("30 the next", x.often(2, 2), 1);
+        due("30 in one", x.often(2, 1), 0);
         due("30 not yet", x.often(0, 3), 0);
         due("30 once", x.often(0, 4), 1);
         due("30 99", x.often(0, 99), 24);
@@ -1048,6 +1101,8 @@ public final class PromiseTest {
         due("32 off", x.game(0, 1, 1, 0, 0), 5);
         due("32 on, off: the other", x.game(0, 1, 0, 1, 1), 5);
         due("32 the other way round", x.game(1, 0, 0, 1, 0), 0);
+        due("32 the other is off", Kit.ring("sl8;ks9;ks5;ks6;k").game(2, 1, 0, 1, 0), 4);
+        due("32 the other is on", Kit.ring("sl8;ks9;ks5;ks6;k").game(2, 1, 0, 0, 0), 6);
         due("32 at most 20", x.game(2, 3, 0, 0, 0), 20);
         due("32 20 less", x.game(3, 2, 0, 0, 0), 20);
         due("32 never below 0", Kit.ring("sl99;ks1;k;k").game(0, 1, 0, 0, 0), 0);
@@ -1144,6 +1199,15 @@ public final class PromiseTest {
         due("36 next breaks", x.all(11), 8);
         x.turn();
         Kit.all("36 one broken", x, 1, 1, 1, 0, 21, 2, 8, 2, 0, 5, 4, 16);
+        due("36 tight 0", Kit.ring("sl8;ks9;ks8;k").all(10), 0);
+        due("36 tight, alike: the lowest", Kit.ring("sl8;ks9;ks7;k").all(10), 0);
+        due("36 tight, overloaded", Kit.ring("sl8;ks9;k;ks1").all(10), 2);
+        due("36 apart 0", Kit.ring("kv0;kv0;kv0").all(9), 0);
+        due("36 all 9", Kit.ring("kv9;kv9;kv9").all(9), 0);
+        due("36 apart 9", Kit.ring("kv9;kv0;kv5").all(9), 9);
+        due("36 alike: the lowest", Kit.ring("ks5v1o3;ks5v1o3;ks5v1o3").all(0), 0);
+        due("36 three of five", Kit.ring("sl0a1;kv5o9;kv5o9;kv5o9;kv4o9;kv0o9").all(8), 1);
+        due("36 two of four", Kit.ring("sl0a1;kv5o9;kv5o9;kv4o9;kv0o9").all(8), 0);
         SpokeRing none = Kit.ring("sl99;ks1v9;ks1v2;ks1v4");
         none.turn();
         Kit.all("36 none on", none, 0, 0, 0, 1, 0, 0, 7, 0, 0, 0, NONE, 0);
