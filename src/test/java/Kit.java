@@ -1,10 +1,14 @@
 import java.nio.charset.StandardCharsets;
 import java.util.NoSuchElementException;
+import java.util.function.BooleanSupplier;
+import java.util.function.IntSupplier;
 
 /** What the tests share: telling texts and comparing answers. */
 final class Kit {
     static int wrong = 0;
     static int compared = 0;
+    private static String sentence = "";
+    private static int sentences = 0;
 
     private Kit() {
     }
@@ -13,7 +17,7 @@ final class Kit {
         compared++;
         if (got != want) {
             wrong++;
-            System.out.println(what + " answered " + got + ", due is " + want);
+            System.out.println(sentence + what + " answered " + got + ", due is " + want);
         }
     }
 
@@ -22,7 +26,8 @@ final class Kit {
     }
 
     static void end(String name) {
-        System.out.println(name + ": " + compared + " answers compared, " + wrong + " wrong");
+        String of = sentences > 0 ? sentences + " sentences, " : "";
+        System.out.println(name + ": " + of + compared + " answers compared, " + wrong + " wrong");
         if (wrong != 0) {
             System.exit(1);
         }
@@ -93,5 +98,70 @@ final class Kit {
         for (int i = 0; i < want.length; i++) {
             due(what + ": all(" + i + ")", x.all(i), want[i]);
         }
+    }
+
+    /** What follows tests this sentence of the document. */
+    static void says(String where, String words) {
+        sentence = where + ", '" + words + "': ";
+        sentences++;
+    }
+
+    /** All that can be asked without changing it: counts, spokes, the log, steps, what was seen. */
+    static String state(SpokeRing x) {
+        StringBuilder told = new StringBuilder();
+        for (int what = 0; what <= 15; what++) {
+            told.append(x.count(what)).append(' ');
+        }
+        for (int what = 4; what <= 6; what++) {
+            told.append(x.all(what)).append(' ');
+        }
+        for (int i = 0; i < x.count(0); i++) {
+            told.append(spoke(x, i, 0)).append(',').append(spoke(x, i, 1)).append(',');
+            told.append(spoke(x, i, 2)).append(' ').append(x.views(i, SpokeRing.NONE)).append(' ');
+        }
+        for (int i = 0; i < x.count(13) && i < 3; i++) {
+            told.append(x.log(i, 0)).append(x.log(i, 1)).append(',').append(x.log(i, 2)).append(' ');
+        }
+        for (int sort = 0; sort <= 2; sort++) {
+            told.append(x.fault(sort)).append(' ');
+        }
+        return told.toString();
+    }
+
+    /** The call answers as told and changes nothing. */
+    static void refused(String what, SpokeRing x, IntSupplier call, int want) {
+        String before = state(x);
+        due(what, call.getAsInt(), want);
+        unchanged(what, before, state(x));
+    }
+
+    /** The call answers false and changes nothing. */
+    static void refused(String what, SpokeRing x, BooleanSupplier call) {
+        String before = state(x);
+        due(what, call.getAsBoolean(), false);
+        unchanged(what, before, state(x));
+    }
+
+    private static void unchanged(String what, String before, String after) {
+        compared++;
+        if (!before.equals(after)) {
+            wrong++;
+            System.out.println(sentence + what + " changed " + before + " to " + after);
+        }
+    }
+
+    /** A wheel so many turns (990 and more) on: none of its turns is held. */
+    static SpokeRing late(String wheel, int turns) {
+        SpokeRing x = ring(wheel);
+        late(x, turns);
+        return x;
+    }
+
+    static void late(SpokeRing x, int turns) {
+        x.slip(0);
+        for (int left = turns; left > 0; left -= 30) {
+            x.years(Math.min(30, left), left);
+        }
+        due("so many turns", x.count(6), turns);
     }
 }
