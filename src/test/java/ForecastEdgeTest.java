@@ -623,6 +623,15 @@ public final class ForecastEdgeTest {
                 due("not behind " + n + ": " + spoke, x.views(spoke, NONE), n % 3 == spoke ? 5 : 0);
             }
         }
+        // told twice it is seen still
+        for (int told = 0; told < 2; told++) {
+            Kit.tell(x, 0, "sl0;kv9o9;kv9o9;kv9o9");
+            x.seen(4, told == 0);
+            x.seen(4, told == 0);
+            due("told twice: how many", x.count(12), 2);
+            due("told twice", x.views(1, NONE), 5);
+            due("told twice, the first", x.views(1, 0), told == 0 ? 5 : 0);
+        }
         Kit.tell(x, 0, "sl0;kv0o9;kv0o9;kv0o9");
         x.seen(20, true);
         x.seen(1, false);

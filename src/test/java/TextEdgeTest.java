@@ -320,6 +320,11 @@ public final class TextEdgeTest {
         worth("y:!v=5?8;y:2", 8);
         worth("y:!(v=4&d=6)?8;y:2", 8);
         worth("y:!v=5&d=6?8;y:2", 2);
+        worth("y:d=7&!v=5?8;y:2", 8);
+        worth("y:d=6&!v=5?8;y:2", 2);
+        worth("y:d=6|!v=5?8;y:2", 8);
+        worth("y:d=6|!!v=5?8;y:2", 2);
+        worth("y:d=7&!(v=5|!v=4)&!o=0?8;y:2", 8);
         worth("y:v<4?8;y:2", 2);
         worth("y:v<5?8;y:2", 8);
         worth("y:v>4?8;y:2", 2);
@@ -460,6 +465,18 @@ public final class TextEdgeTest {
         worth("y:3;y:4", 3);
         worth("y:v=5?8", 0);
         worth("y:v=5?8;y:v=6?7", 0);
+        // as many signs as a tape can have: the last one counts, too
+        StringBuilder full = new StringBuilder("y: v");
+        while (full.length() < 238) {
+            full.append(full.length() % 4 == 0 ? "-1" : "+1");
+        }
+        due("bytes", full.length() + 2, 240);
+        worth(full + "+3", 6);
+        StringBuilder clauses = new StringBuilder();
+        for (int i = 0; i < 29; i++) {
+            clauses.append("y:v=9?1;");
+        }
+        worth(clauses + "y:v=4?7", 7);
     }
 
     // ---- Terms 1: journeys ----
