@@ -682,6 +682,14 @@ public final class ForecastEdgeTest {
         due("wet as told", x.views(1, NONE), 5);
         x.wet(0);
         due("not as it is", x.views(1, NONE), 5);
+        // 0's view comes to 9 by one each time 1 or 2 is down: what was seen first holds with what was seen then
+        for (boolean done : new boolean[] {true, false}) {
+            SpokeRing all = Kit.ring("sl0;kv9o0;kv9o9;kv9o9");
+            all.seen(done ? 3 : 6, done);
+            due("one of " + done, all.views(0, NONE), done ? 7 : 1);
+            all.seen(done ? 6 : 3, done);
+            due("both of " + done, all.views(0, NONE), done ? 7 : 1);
+        }
         SpokeRing y = Kit.ring("sl16;kv9o9;ks7v9o9;kv9o9;k");
         y.seen(1, false);
         due("1 breaks as it is down, whatever its view", y.views(1, NONE), 10);

@@ -178,6 +178,10 @@ public final class PromiseTest {
         Kit.fault(1, "y:", 2);
         Kit.fault(1, " y : 1 ", NONE);
         Kit.fault(1, "y;", 1);
+        Kit.fault(1, "5", 0);
+        Kit.fault(1, "y5", 1);
+        Kit.fault(1, "y:1;5", 4);
+        Kit.fault(1, "y:1;y5", 5);
         Kit.fault(1, "x", 0);
         Kit.fault(1, "y:0000", NONE);
         Kit.fault(1, "y:00000", 6);
@@ -362,6 +366,7 @@ public final class PromiseTest {
         worth("y:w", 6);
         worth("y:t", 0);
         worth("y:t+3", 3);
+        worth("y:33-30", 3);
         worth("y:v+d", 9);
         worth("y:v-d", 0);
         worth("y:2+3*2-1", 7);
@@ -1009,6 +1014,11 @@ public final class PromiseTest {
         due("27 two nearer, from 3", y.views(0, 0), 3);
         y.seen(6, false);
         due("27 none is below by then", y.views(0, NONE), 0);
+        SpokeRing both = Kit.ring("sl0;kv9o0;kv9o9;kv9o9");
+        both.seen(6, false);
+        due("27 four nearer: just from 0 not", both.views(0, NONE), 1);
+        both.seen(3, false);
+        due("27 all that was not so", both.views(0, NONE), 1);
         SpokeRing law = Kit.ring("sl0;kv0;kv0;kv0", "y:d");
         law.seen(2, true);
         due("27 by the law that holds", law.views(1, NONE), 5);

@@ -238,6 +238,16 @@ public final class TextEdgeTest {
         Kit.fault(1, "y:1=1?1?1", 7);
         Kit.fault(1, "y:1=1?(1=1)", 6);
         Kit.fault(1, "y:1=1?!1=1", 6);
+        // without y, without : , though a SUM or a CONDITION would follow
+        for (String rest : new String[] {"5", "v", "[v]", "v=1?2", "(v=1)?2", "!v=1?2"}) {
+            Kit.fault(1, rest, 0);
+            Kit.fault(1, ":" + rest, 0);
+            Kit.fault(1, "y" + rest, 1);
+            Kit.fault(1, "y:1;" + rest, 4);
+            Kit.fault(1, "y:1;:" + rest, 4);
+            Kit.fault(1, "y:1;y" + rest, 5);
+            Kit.fault(1, "y:1;y:" + rest, NONE);
+        }
     }
 
     private static void conditionsOfLaws() {
@@ -363,6 +373,12 @@ public final class TextEdgeTest {
         Kit.fault(1, "y:1=00001?1", 8);
         worth("y:9999/1111", 9);
         worth("y:0009", 9);
+        worth("y:0000", 0);
+        // each number stands for itself, those by which signs are told, too
+        for (int n = 5; n <= 9999; n = n < 300 ? n + 1 : n * 2 - 1) {
+            worth("y:" + n + "-" + (n - 5), 5);
+        }
+        worth("y:9999-9994", 5);
     }
 
     private static String nested(int n, String open, String inner, String close) {
