@@ -42,7 +42,9 @@ public final class ForecastEdgeTest {
         firstNone();
         gameWithin();
         gameHidden();
+        asTheBottomIs();
         restsRising();
+        restsByGame();
         restsNone();
         oddsParts();
         oddsCut();
@@ -558,6 +560,7 @@ public final class ForecastEdgeTest {
         due("two to one", Kit.ring("sl0;kv8o9;kv3o9;kv8o9").settled(1), 8);
         due("of several the least", Kit.ring("sl0;kv8o9;kv3o9;kv4o9").settled(1), 3);
         due("two of two", Kit.ring("sl0;kv8o9;kv3o9;kv3o9;kv8o9").settled(1), 3);
+        due("by the last two of eight", Kit.ring("sl0;kv3o9;kv3o9;kv7o9;kv1o9;kv2o9;kv0o9;kv7o9;kv7o9").settled(1), 7);
         due("0", Kit.ring("sl0;kv0o9;kv9o9;kv0o9").settled(1), 0);
         due("9", Kit.ring("sl0;kv9o9;kv0o9;kv9o9").settled(1), 9);
         due("only those that are on", off(Kit.ring("sl0;kv8o9;kv3o9;kv8o9"), 0, 2).settled(1), 3);
@@ -783,6 +786,14 @@ public final class ForecastEdgeTest {
         due("3 of 3, 6, 9 ..", x.ask(0), 3);
         due("2 of 2, 5, 8 ..", x.ask(2), 2);
         due("1 of 1, 4, 7 ..", x.ask(1), 1);
+        for (int i = 0; i < 9; i++) {
+            due("asked again and again", x.ask(i % 3), i % 3 == 0 ? 3 : i % 3);
+        }
+        SpokeRing twentieth = Kit.ring("sl0a1;kv0;kv0;kv0", "y:t=19&d>4?9;y:v");
+        for (int i = 0; i < 5; i++) {
+            due("the 20th again and again", twentieth.ask(2), 20);
+            due("nothing tells of another", twentieth.ask(0), 1);
+        }
         x.seen(1, true);
         due("behind what was seen all are alike", x.ask(1), 1);
         due("another's is not", x.ask(2), 2);
@@ -905,6 +916,22 @@ public final class ForecastEdgeTest {
         SpokeRing second = Kit.ring("sl16;ks99;ks8;ks99;ks99;ks99;ks99;ks99;ks99");
         off(second, 0);
         due("1 bears what falls to 0, too", second.first(1), 1);
+        // 4 breaks in its turn; 5 bears 3 and 1 in its own, but 3 and 2 as the place of 4 is at the bottom again
+        SpokeRing again = Kit.ring("sl6;k;k;k;k;ks2;ks4;k;k");
+        due("4 in the fourth", again.first(4), 4);
+        due("5 in a second round", again.first(5), 12);
+        due("6 never", again.first(6), NONE);
+        again.turn();
+        due("5, one turn on", again.first(5), 11);
+        SpokeRing third = Kit.ring("sl26;ks12;ks14;ks24;ks23;ks17;ks21;ks14;ks23");
+        int last = third.first(7);
+        due("7 in a third round", last, 22);
+        for (int i = 1; i <= 22; i++) {
+            due("7 is broken then and not ahead of it, " + i, third.all(6) >> 7, 0);
+            third.turn();
+            due("by TURNS " + i, third.first(7), i == 22 ? NONE : 22 - i);
+        }
+        due("7 is broken", third.all(6) >> 7, 1);
     }
 
     private static void firstNone() {
@@ -979,6 +1006,56 @@ public final class ForecastEdgeTest {
         Kit.refused("one is off", x, () -> x.game(3, 0, 0, 0, 0), HIDDEN);
         Kit.refused("the other is off", x, () -> x.game(0, 3, 0, 0, 0), HIDDEN);
         due("these two are on", x.game(0, 2, 1, 0, 0), 5);
+    }
+
+    private static void asTheBottomIs() {
+        Kit.says("Terms 3", "what it BEARS as the bottom is; at the bottom behind all of these; what it BEARS now; in the next TURN");
+        SpokeRing x = Kit.ring("sl16;ks30v0o9;ks12v9o9;ks10v0o9;ks7v0o9;ks30v0o9");
+        due("1 is for it", x.turn(), 1);
+        due("2 is not", x.turn(), 0);
+        due("2 is not, held", x.hold(), 0);
+        // place 2, TURN 3, DONE once
+        int[] bears = {0, 4, 8, 4, 0};
+        for (int spoke = 0; spoke < 5; spoke++) {
+            due("bears " + spoke, Kit.spoke(x, spoke, 4), bears[spoke]);
+            due("place " + spoke, x.odds(spoke, 0, 40), spoke == 2 ? 1000000000 : 0);
+            due("place " + spoke + " behind one", x.odds(spoke, 1, 40), spoke == 2 ? 400000000 : spoke == 3 ? 600000000 : 0);
+        }
+        due("2 has", x.game(2, 3, 0, 0, 0), 2);
+        due("3 has", x.game(2, 3, 0, 0, 1), 3);
+        due("1 has", x.game(1, 0, 0, 0, 0), 8);
+        due("3 has, 2 is off", x.game(3, 2, 0, 1, 0), 0);
+        due("tight", x.all(10), 2);
+        due("breaking", x.all(11), 8);
+    }
+
+    private static void restsByGame() {
+        Kit.says("Terms 3", "RESTS: 10 times x and y by which neither has more by another of its own");
+        for (int i = 0; i < 81; i++) {
+            SpokeRing x = Kit.ring("sl16;ks" + (8 + i % 9) + ";ks" + (8 + i / 9) + ";ks" + (8 + i % 7) + ";ks20");
+            for (int turns = 0; turns < 4; turns++) {
+                for (int pair = 0; pair < 16; pair++) {
+                    rests(x, pair / 4, pair % 4);
+                }
+                x.turn();
+            }
+        }
+    }
+
+    private static void rests(SpokeRing x, int one, int other) {
+        int found = 0;
+        for (int row = 0; row < 4; row++) {
+            int a = row / 2;
+            int b = row % 2;
+            if (x.game(one, other, 1 - a, b, 0) <= x.game(one, other, a, b, 0)
+                    && x.game(one, other, a, 1 - b, 1) <= x.game(one, other, a, b, 1)
+                    && x.game(one, other, a, b, 0) != HIDDEN) {
+                due("rest of " + one + " and " + other, x.rests(one, other, found), 10 * a + b);
+                found++;
+            }
+        }
+        boolean two = x.game(one, other, 0, 0, 0) != HIDDEN;
+        due("rests of " + one + " and " + other, x.rests(one, other, NONE), two ? found : NONE);
     }
 
     private static void restsRising() {
@@ -1164,6 +1241,14 @@ public final class ForecastEdgeTest {
         due("the last is most obstinate", z.all(1), 7);
         due("the last is highest", z.all(2), 7);
         due("the first is lowest", z.all(3), 0);
+        SpokeRing each = Kit.ring("ks1v9o1;ks9v5o2;ks5v4o9;ks6v1o3");
+        for (int what = 0; what <= 3; what++) {
+            due("each another, " + what, each.all(what), new int[] {1, 2, 0, 3}[what]);
+        }
+        SpokeRing other = Kit.ring("ks6v1o3;ks1v9o9;ks5v4o1;ks9v5o2");
+        for (int what = 0; what <= 3; what++) {
+            due("each another again, " + what, other.all(what), new int[] {3, 1, 1, 0}[what]);
+        }
         SpokeRing w = Kit.ring(wheel("", 7, "kv4") + ";kv3");
         due("the last is lowest", w.all(3), 7);
     }
@@ -1229,6 +1314,8 @@ public final class ForecastEdgeTest {
         due("one is on", x.all(9), 0);
         off(x, 2);
         due("none", x.all(9), 0);
+        due("the last two of eight", Kit.ring(wheel("", 6, "kv5") + ";kv2;kv9").all(9), 7);
+        due("the last of eight", Kit.ring(wheel("", 7, "kv5") + ";kv3").all(9), 2);
         due("all 0", Kit.ring("kv0;kv0;kv0").all(9), 0);
         due("all 9", Kit.ring("kv9;kv9;kv9").all(9), 0);
     }

@@ -1,4 +1,5 @@
 import java.io.IOException;
+import java.lang.reflect.Array;
 import java.lang.reflect.Constructor;
 import java.lang.reflect.Field;
 import java.lang.reflect.Method;
@@ -6,6 +7,9 @@ import java.lang.reflect.Modifier;
 import java.nio.file.Files;
 import java.nio.file.Path;
 import java.util.ArrayList;
+import java.util.Arrays;
+import java.util.Collections;
+import java.util.IdentityHashMap;
 import java.util.List;
 import java.util.Set;
 import java.util.TreeSet;
@@ -31,7 +35,7 @@ public final class LanguageTest {
     private LanguageTest() {
     }
 
-    public static void main(String[] args) throws IOException {
+    public static void main(String[] args) throws IOException, IllegalAccessException {
         String source = bare(Files.readString(Path.of("src/main/java/SpokeRing.java")));
         for (String pattern : FORBIDDEN) {
             Matcher found = Pattern.compile(pattern).matcher(source);
@@ -40,6 +44,8 @@ public final class LanguageTest {
         face();
         inside();
         lengths(source);
+        madeInConstructors(source);
+        room();
         Kit.end("LanguageTest");
     }
 
@@ -125,5 +131,53 @@ public final class LanguageTest {
             }
             Kit.due("a method of " + (end - i) + " lines: " + lines[i].trim(), end - i <= 60, true);
         }
+    }
+
+    /** All calls live in one room: what is made is made by constructors, but for what is thrown. */
+    private static void madeInConstructors(String source) {
+        Pattern head = Pattern.compile("^ +[\\w\\[\\]<> ]+\\([^;]*\\)( throws \\w+)? \\{$");
+        Pattern constructor = Pattern.compile("^ +(public )?[A-Z]\\w*\\([^;]*\\) \\{$");
+        boolean within = false;
+        int made = 0;
+        for (String line : source.split("\n")) {
+            if (head.matcher(line).matches() && !line.matches(" +(if|for|while|switch|\\} else).*")) {
+                within = constructor.matcher(line).matches();
+            }
+            if (line.matches(".*\\bnew\\b.*")) {
+                made++;
+                Kit.due("made in a constructor or thrown: " + line.trim(), within || line.contains("throw new "), true);
+            }
+        }
+        Kit.due("something is made", made > 10, true);
+    }
+
+    /** An object with all that it keeps takes a hundredth of the room at most (600,000 objects, 7.3 million elements). */
+    private static void room() throws IllegalAccessException {
+        Set<Object> objects = Collections.newSetFromMap(new IdentityHashMap<>());
+        List<Object> open = new ArrayList<>();
+        long elements = 0;
+        open.add(new SpokeRing());
+        while (!open.isEmpty()) {
+            Object one = open.remove(open.size() - 1);
+            if (one == null || one instanceof String || !objects.add(one)) {
+                continue;
+            }
+            if (one.getClass().isArray()) {
+                elements += Array.getLength(one);
+                if (one instanceof Object[] row) {
+                    open.addAll(Arrays.asList(row));
+                }
+                continue;
+            }
+            for (Field field : one.getClass().getDeclaredFields()) {
+                if (!Modifier.isStatic(field.getModifiers())) {
+                    elements++;
+                    field.setAccessible(true);
+                    open.add(field.getType().isPrimitive() ? null : field.get(one));
+                }
+            }
+        }
+        Kit.due("objects: " + objects.size(), objects.size() <= 6000, true);
+        Kit.due("fields and elements: " + elements, elements <= 73000, true);
     }
 }

@@ -414,6 +414,13 @@ public final class TextEdgeTest {
         Kit.fault(1, "y:!!!!!!1=[1]?1", 10);
         Kit.fault(1, "y:!!!!!!1=1+[1]?1", 12);
         Kit.fault(1, "y:!!!!!!1=1*[1]?1", 12);
+        Kit.fault(1, "y:(((!!!1=1)))?1", NONE);
+        Kit.fault(1, "y:(((!!!!1=1)))?1", 8);
+        Kit.fault(1, "y:((((!!!(1=1", 8);
+        Kit.fault(1, "y:((!!!!(1=1", 8);
+        Kit.fault(1, "y:(((((!![1", 8);
+        Kit.fault(1, "y:(((((![1", 8);
+        Kit.fault(1, "y:(((((!1=[1", 10);
         // beside one another they do not count
         Kit.fault(1, "y:" + nested(6, "[", "1", "]") + "+" + nested(6, "[", "1", "]"), NONE);
         Kit.fault(1, "y:1+" + nested(7, "[", "1", "]"), 10);
